@@ -1,7 +1,12 @@
 import java.math.BigInteger;
 import java.util.ArrayList;
+import java.util.Arrays;
+import java.util.HashMap;
 import java.util.List;
+import java.util.Map;
 import java.util.TreeMap;
+import java.util.regex.Matcher;
+import java.util.regex.Pattern;
 
 /**
  * The document once more, as slow and plain as can be, to hold SlipHunt against: rationals of BigIntegers, all
@@ -297,8 +302,7 @@ final class SlowHunt {
         StringBuilder chars = new StringBuilder();
         text.forEach(b -> chars.append((char) (int) b));
         List<Token> tokens = new ArrayList<>();
-        java.util.regex.Matcher m = java.util.regex.Pattern.compile("[a-z]+|[0-9]+|[^ ]", java.util.regex.Pattern.DOTALL)
-                .matcher(chars);
+        Matcher m = Pattern.compile("[a-z]+|[0-9]+|[^ ]", Pattern.DOTALL).matcher(chars);
         while (m.find()) {
             tokens.add(new Token(m.start(), m.group()));
         }
@@ -454,6 +458,9 @@ final class SlowHunt {
         return lay(state.rows.get(lot));
     }
 
+    /** Minutes that were gone through already, by who riddles and how QUICK they are. */
+    private final Map<List<Integer>, Exact[]> known = new HashMap<>();
+
     /** One minute: entry c is the chance that CHILD c GUESSED it, entry 6 that none has it. */
     private Exact[] minute(int lot, int kind, int place) {
         List<Integer> who = new ArrayList<>();
@@ -462,8 +469,14 @@ final class SlowHunt {
             boolean never = (kind == 0 || kind == 2) && !k.reads || kind == 3 && k.reads;
             if (k.lot == lot && !k.barred[place] && !never) who.add(c);
         }
+        List<Integer> key = new ArrayList<>(who);
+        who.forEach(c -> key.add(state.children.get(c).quick[kind]));
+        return known.computeIfAbsent(key, k -> minuteOf(who, kind));
+    }
+
+    private Exact[] minuteOf(List<Integer> who, int kind) {
         Exact[] chance = new Exact[7];
-        java.util.Arrays.fill(chance, Exact.ZERO);
+        Arrays.fill(chance, Exact.ZERO);
         for (int set = 0; set < 1 << who.size(); set++) {
             Exact p = Exact.ONE;
             int first = 6;
@@ -597,6 +610,9 @@ final class SlowHunt {
         }
     }
 
+    /** What the last search found. */
+    List<Integer> bestOrder;
+
     int order(int lot, int i) {
         if (!in(lot, 0, 1) || !in(i, 0, 5)) return tell(BAD);
         List<List<Integer>> all = new ArrayList<>();
@@ -616,9 +632,13 @@ final class SlowHunt {
             }
         }
         if (best == null) return tell(NO);
+        bestOrder = best;
         fraction = mean;
         return i < best.size() ? best.get(i) : -5;
     }
+
+    /** What the last search found. */
+    int[] bestKinds;
 
     int kinds(int lot, int i) {
         if (!in(lot, 0, 1) || !in(i, 0, 5)) return tell(BAD);
@@ -640,8 +660,9 @@ final class SlowHunt {
             Laid laid = lay(lot);
             List<Exact> guessed = allGuessed(lot, laid);
             Exact least = guessed.isEmpty() ? Exact.ZERO : guessed.get(0);
-            Exact far = meanLength(lot, laid).minus(Exact.of(state.number[1], 1)).size();
             int more = best == null ? 1 : least.compare(bestLeast);
+            if (more < 0) continue;
+            Exact far = meanLength(lot, laid).minus(Exact.of(state.number[1], 1)).size();
             if (more > 0 || more == 0 && far.compare(bestFar) < 0) {
                 best = kinds;
                 bestLeast = least;
@@ -649,6 +670,7 @@ final class SlowHunt {
             }
         }
         state = before;
+        bestKinds = best;
         fraction = bestLeast;
         return i < best.length ? best[i] : -5;
     }
@@ -703,6 +725,7 @@ final class SlowHunt {
                 fewest = pairs;
             }
         }
+        bestOrder = best;
         return i == NONE ? fewest : i < best.size() ? best.get(i) : -5;
     }
 
@@ -798,7 +821,7 @@ final class SlowHunt {
         if (took.length == 0) return tell(NO);
         if (what == 0) return took[0];
         if (what == 1) return took[took.length - 1];
-        fraction = Exact.of(java.util.Arrays.stream(took).sum(), took.length);
+        fraction = Exact.of(Arrays.stream(took).sum(), took.length);
         return 1;
     }
 
