@@ -1514,11 +1514,9 @@ public final class SlipHunt {
                     }
                 }
             }
+            // What the CHILDREN have ahead of the first place is never written: it stays 0.
             length[0].set(0);
             length[0].addTimes(means.unit, hunt.walked);
-            for (int c = 0; c < CHILDREN; c++) {
-                guessed[c].set(0);
-            }
         }
 
         private void addPlace(int i) {

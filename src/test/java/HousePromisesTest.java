@@ -384,6 +384,8 @@ final class HousePromisesTest extends Promises {
         make(1);
         due(-10, told("plac;"));
         due(-10, told("placee;"));
+        due(-10, told("blace;"));
+        due(-16, told("place;cow 0 0;"));
         due(-10, told(";"));
         due(-10, told("7;"));
         due(-10, told("Place;"));
