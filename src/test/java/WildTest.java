@@ -78,6 +78,8 @@ final class WildTest {
             x.slip(dice.nextInt(10), dice.nextInt(4));
             x.means(s, dice.nextInt(10));
             x.means(s, dice.nextInt(10));
+        }
+        for (int s = 0; s < 6; s++) {
             x.row(0, s);
             x.row(1, 7 - s);
         }
