@@ -14,7 +14,6 @@ final class HuntPromisesTest extends Promises {
         t.ordersOfRowsThatCanNotBeWalked();
         t.kinds();
         t.kindsOfLikeOnes();
-        t.kindsAroundTheGoal();
         t.meetings();
         t.apart();
         t.sooner();
@@ -382,22 +381,6 @@ final class HuntPromisesTest extends Promises {
         due(1, x.kinds(0, 0));
         childIn(1, true, 0, 0, 0, 9);
         due(1, x.kinds(0, 0));
-    }
-
-    /** Means of 31/10 and 29/10 are alike near 3: so the first by KINDS. */
-    private void kindsAroundTheGoal() {
-        for (int turned = 7; turned <= 9; turned += 2) {
-            begin(24);
-            make(1);
-            slipsAt(0, 0);
-            row(0, 0, 1);
-            x.put(0, 2);
-            x.put(1, 3);
-            childIn(0, true, 0, 0, 0, 0);
-            childIn(0, true, 2, 16 - turned, turned, 0);
-            due(0, x.kinds(0, 0));
-            due(1, x.kinds(0, 1));
-        }
     }
 
     private void meetings() {

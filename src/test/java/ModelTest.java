@@ -2,7 +2,10 @@ import java.util.Random;
 
 /** Long runs of chosen-by-number calls, each held against the slow model: answers, THE FRACTION, STATUS, digest. */
 final class ModelTest {
-    private static final int RUNS = 500;
+    private static final int RUNS = 1000;
+
+    /** What later calls answer is free. */
+    private static final int MOST_CALLS = 512;
 
     private final Random dice;
     private final Check check;
@@ -49,7 +52,7 @@ final class ModelTest {
             build();
         }
         fractionIs();
-        while (calls < 460 && check.isClean()) {
+        while (calls < MOST_CALLS - 60 && check.isClean()) {
             int pick = dice.nextInt(100);
             if (pick < 30) {
                 change();
@@ -62,6 +65,7 @@ final class ModelTest {
             }
         }
         same("digest()", y.digest(), x.digest());
+        check.that("an object is used for " + calls + " calls", calls <= MOST_CALLS);
     }
 
     private void build() {
@@ -197,8 +201,7 @@ final class ModelTest {
                 same("limb(" + which + ", " + i + ")", y.limb(which, i), x.limb(which, i));
             }
         }
-        calls -= 2;
-        check.same("run " + run + ": digest()", y.digest(), x.digest());
+        same("digest()", y.digest(), x.digest());
     }
 
     private void askRest() {
@@ -248,7 +251,7 @@ final class ModelTest {
             text.append(words[dice.nextInt(words.length)]);
         }
         String before = text.toString();
-        if (calls > 380) {
+        if (calls > MOST_CALLS - 130) {
             return;
         }
         same("image(1)", y.image(1), x.image(1));

@@ -300,8 +300,8 @@ final class RestEdgesTest extends Promises {
         due(0, x.soon(0));
     }
 
-    private void soonAlongTheFirstPath() {
-        edge(30, "its PATH: of all such rows of PLACES the first");
+    /** From 0 to 5 by 1 and 4, or, in as many minutes, by 2 and 3. */
+    private void twoPaths() {
         make(6);
         x.way(0, 1, 1);
         x.way(1, 4, 1);
@@ -309,6 +309,11 @@ final class RestEdgesTest extends Promises {
         x.way(0, 2, 1);
         x.way(2, 3, 1);
         x.way(3, 5, 1);
+    }
+
+    private void soonAlongTheFirstPath() {
+        edge(30, "its PATH: of all such rows of PLACES the first");
+        twoPaths();
         slipsAt(0, 5, 1, 2, 3, 4);
         int[] seen = {4, 0, 0, 4};
         for (int i = 0; i < 4; i++) {
@@ -316,13 +321,7 @@ final class RestEdgesTest extends Promises {
             due(seen[i], x.soon(0));
         }
         edge(30, "the first by its PLACES in its own direction");
-        make(6);
-        x.way(0, 1, 1);
-        x.way(1, 4, 1);
-        x.way(4, 5, 1);
-        x.way(0, 2, 1);
-        x.way(2, 3, 1);
-        x.way(3, 5, 1);
+        twoPaths();
         slipsAt(5, 0, 1, 2, 3, 4);
         x.put(3, 5);
         int[] back = {0, 4, 4, 0};

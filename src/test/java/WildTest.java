@@ -6,10 +6,17 @@ import java.util.Arrays;
 import java.util.Comparator;
 import java.util.Random;
 
-/** Calls of any kind with any numbers: none throws, none makes an object, and a refused one changes STATUS alone. */
+/**
+ * Calls of any kind with any numbers: none throws, none makes an object, and a refused one changes STATUS alone, as long
+ * as what is answered is promised.
+ */
 final class WildTest {
-    private static final int RUNS = 400;
-    private static final int CALLS = 512;
+    private static final int RUNS = 2000;
+    private static final int CALLS = 300;
+    /** What later calls of an object answer is free. */
+    private static final int PROMISED_CALLS = 512;
+    private static final int CALLS_TO_BUILD = 110;
+    private static final int CALLS_TO_CHECK_ONE = 9;
     /** What one object may take: far less than a room holds. */
     private static final long MOST_BYTES = 200_000;
     private static final int[] EDGES = {Integer.MIN_VALUE, Integer.MAX_VALUE, -100, -11, -5, -4, -3, -2, -1, 0, 1, 2, 3, 4, 5,
@@ -35,19 +42,28 @@ final class WildTest {
                 for (int i = 0; i < arguments.length; i++) {
                     arguments[i] = any(m.getParameterTypes()[i], dice);
                 }
-                one(run, x, m, arguments);
+                int used = (run % 2 == 0 ? 0 : CALLS_TO_BUILD) + (call + 1) * CALLS_TO_CHECK_ONE;
+                if (used <= PROMISED_CALLS) {
+                    one(x, m, arguments);
+                } else {
+                    invoke(x, m, arguments);
+                }
             }
         }
     }
 
-    private static void one(int run, SlipHunt x, Method m, Object[] arguments) throws ReflectiveOperationException {
-        int[] before = {x.status(0), x.status(1), x.status(2)};
-        long digest = x.digest();
+    private static void invoke(SlipHunt x, Method m, Object[] arguments) throws ReflectiveOperationException {
         try {
             m.invoke(x, arguments);
         } catch (InvocationTargetException e) {
-            CHECK.fail("run " + run + ": " + m.getName() + Arrays.toString(arguments) + " threw " + e.getCause());
+            CHECK.fail(m.getName() + Arrays.toString(arguments) + " threw " + e.getCause());
         }
+    }
+
+    private static void one(SlipHunt x, Method m, Object[] arguments) throws ReflectiveOperationException {
+        int[] before = {x.status(0), x.status(1), x.status(2)};
+        long digest = x.digest();
+        invoke(x, m, arguments);
         int refused = x.status(0) + x.status(1) + x.status(2) - before[0] - before[1] - before[2];
         CHECK.that(m.getName() + " was refused " + refused + " times", refused == 0 || refused == 1);
         CHECK.that(m.getName() + Arrays.toString(arguments) + " was refused, but changed", refused == 0 || digest == x.digest());
@@ -99,7 +115,7 @@ final class WildTest {
         x = full(new Random(5));
         dear(x);
         start = threads.getThreadAllocatedBytes(self);
-        for (int i = 0; i < 40; i++) {
+        for (int i = 0; i < 30; i++) {
             dear(x);
         }
         long later = threads.getThreadAllocatedBytes(self) - start;
